@@ -129,13 +129,13 @@ public final class PluralMessages {
         if (!sound()) {
             return 0;
         }
-        int set = 0;
+        int names = 0;
         for (int p = 0; p < typed; p++) {
             if (template[p] == '{') {
-                set |= 1 << argumentAt(p + 1);
+                names |= 1 << argumentAt(p + 1);
             }
         }
-        return set;
+        return names;
     }
 
     public int consulted() {

@@ -27,10 +27,9 @@ public final class PromisesTest {
 
     private static void promise1NewObject() {
         int[] rules = {LEAST, -1, 0, 1, 2, 3, GREATEST};
-        String[] letters = {"o", "o", "o", "o", "x", "x", "x"};
-        for (int i = 0; i < rules.length; i++) {
-            String what = "new object, rules " + rules[i];
-            PluralMessages x = new PluralMessages(rules[i]);
+        for (int r : rules) {
+            String what = "new object, rules " + r;
+            PluralMessages x = new PluralMessages(r);
             Check.due(what + " length", 0, x.length());
             Check.due(what + " charAt", PluralMessages.BAD, x.charAt(0));
             Check.due(what + " consulted", 0, x.consulted());
@@ -40,28 +39,20 @@ public final class PromisesTest {
             Check.due(what + " wipe", 0, x.wipe());
             Check.due(what + " format", 0, x.format());
             formats(x, "{0}{1}{2}{3}", "0000");
-            // 101 has the letter x by rules 0 and 2, o by rules 1; 1 by rules 2 and 0 is o.
-            x.set(0, 101);
-            formats(x, "{0?o(o)x(x)f(f)m(m)}", rules[i] == 1 ? "o" : "x");
-            x.set(0, 103);
-            formats(x, "{0?o(o)x(x)f(f)m(m)}", rules[i] < 1 ? "x" : "f");
-            x.set(0, 2);
-            formats(x, "{0?o(o)x(x)f(f)m(m)t(t)}", rules[i] < 1 ? "x" : rules[i] == 1 ? "f" : "t");
+            // The letter of 2 tells the three rules apart.
+            formats(r, "{0?x(x)f(f)t(t)}", r < 1 ? "x" : r == 1 ? "f" : "t", 2);
         }
     }
 
     private static void promise2Type() {
         String allowed = "abcdefghijklmnopqrstuvwxyz0123456789 ,.!-#{}()?:=";
-        int good = 0;
-        PluralMessages x = new PluralMessages(0);
         for (int c = 0; c <= Character.MAX_VALUE; c++) {
+            PluralMessages y = new PluralMessages(0);
             boolean fits = allowed.indexOf((char) c) >= 0;
-            Check.due("type(" + c + ")", fits ? 1 : PluralMessages.BAD, x.type((char) c));
-            Check.due("type(" + c + ") keeps", fits ? 1 : 0, x.wipe());
-            good += fits ? 1 : 0;
+            Check.due("type(" + c + ")", fits ? 1 : PluralMessages.BAD, y.type((char) c));
+            Check.due("type(" + c + ") keeps", fits ? 1 : 0, y.wipe());
         }
-        Check.due("characters of the grammar", allowed.length(), good);
-
+        PluralMessages x = new PluralMessages(0);
         for (int i = 1; i <= 96; i++) {
             Check.due("type " + i, i, x.type((char) ('a' + i % 26)));
         }
@@ -147,85 +138,68 @@ public final class PromisesTest {
     }
 
     private static void promise7Format() {
-        PluralMessages x = new PluralMessages(0);
-        formats(x, "", "");
-        formats(x, "az 09,.!-", "az 09,.!-");
+        formats(0, "", "");
+        formats(0, "az 09,.!-", "az 09,.!-");
         int[] numbers = {0, 1, -1, 9, 10, -10, 99, 100, 101, 1000, 10203, -70000, 999999999, 1000000000, -1000000001,
             GREATEST, LEAST, LEAST + 1};
         for (int n : numbers) {
-            x.set(2, n);
-            formats(x, "{2}", "" + n);
-            formats(x, "<{2}>".replace('<', 'a').replace('>', 'b') + "{2?x(#)o(#)}", "a" + n + "b" + n);
+            formats(0, "{2}", "" + n, 0, 0, n);
+            formats(0, "a{2}b{2?x(#)o(#)}", "a" + n + "b" + n, 0, 0, n);
         }
-        Check.setAll(x, 1, 2, 3, 4);
-        formats(x, "{3}{2}{1}{0}", "4321");
-        formats(x, "a{0:q(b)}c", "ac");
-        formats(x, "a{0:b(b)}c", "abc");
-        formats(x, "a{0:b()}c", "ac");
-        formats(x, "{0:b({1:c({2:d({3:e(deep)}.)},)}!)}-", "deep.,!-");
-        formats(x, "{0:a(no {1} {2:x(no)})b(yes {2:x(no)d({3})})x(no)} end", "yes 4 end");
-        formats(x, "{0?o(a)}{1?x(b)}{1?o(c)}", "ab");
+        formats(0, "{3}{2}{1}{0}", "4321", 1, 2, 3, 4);
+        formats(0, "a{0:q(b)}c", "ac", 1);
+        formats(0, "a{0:b(b)}c", "abc", 1);
+        formats(0, "a{0:b()}c", "ac", 1);
+        formats(0, "{0:b({1:c({2:d({3:e(deep)}.)},)}!)}-", "deep.,!-", 1, 2, 3, 4);
+        formats(0, "{0:a(no {1} {2:x(no)})b(yes {2:x(no)d({3})})x(no)} end", "yes 4 end", 1, 2, 3, 4);
+        formats(0, "{0?o(a)}{1?x(b)}{1?o(c)}", "ab", 1, 2);
     }
 
     private static void promise7Hash() {
-        PluralMessages x = new PluralMessages(0);
-        Check.setAll(x, 10, 20, 30, 40);
-        formats(x, "#", "#");
-        formats(x, "{0:x(#)}", "10".length() == 2 ? "#" : "");
-        formats(x, "#{0?x(#)}#", "#10#");
-        formats(x, "{0?x(#{1?x(#{2?x(#{3?x(#)}#)}#)}#)}#", "10203040302010#");
-        formats(x, "{0?x({1:x(#)u(#)}#)}", "1010");
-        formats(x, "{0:k({1?x({2:x(#)}#)}#)}", "2020#");
-        formats(x, "{0?x({1:q({2?x(#)})}#)}", "10");
-        formats(x, "{0?x({1})x(#)}{1?=1()x(#)}", "2020");
-        x.set(3, -5);
-        formats(x, "{3?x(#)}", "-5");
+        formats(0, "#", "#", 10, 20, 30, 40);
+        formats(0, "{0:x(#)}", "#", 10, 20, 30, 40);
+        formats(0, "#{0?x(#)}#", "#10#", 10, 20, 30, 40);
+        formats(0, "{0?x(#{1?x(#{2?x(#{3?x(#)}#)}#)}#)}#", "10203040302010#", 10, 20, 30, 40);
+        formats(0, "{0?x({1:x(#)u(#)}#)}", "1010", 10, 20, 30, 40);
+        formats(0, "{0:k({1?x({2:x(#)}#)}#)}", "2020#", 10, 20, 30, 40);
+        formats(0, "{0?x({1:q({2?x(#)})}#)}", "10", 10, 20, 30, 40);
+        formats(0, "{0?x({1})x(#)}{1?=1()x(#)}", "2020", 10, 20, 30, 40);
+        formats(0, "{3?x(#)}", "-5", 10, 20, 30, -5);
     }
 
     private static void promise7BranchOrder() {
-        PluralMessages x = new PluralMessages(0);
-        x.set(0, 1);
-        formats(x, "{0?x(x)o(o)=1(1)}", "1");
-        formats(x, "{0?=1(1)o(o)x(x)}", "1");
-        formats(x, "{0?x(x)o(o)}", "o");
-        formats(x, "{0?x(x)=2(2)}", "x");
-        formats(x, "{0?=2(2)f(f)}", "");
-        formats(x, "{0?=1(a)=1(b)}", "a");
-        formats(x, "{0?o(a)o(b)}", "a");
-        formats(x, "{0?x(a)x(b)}", "a");
-        formats(x, "{0?=0(0)=1()x(x)}", "");
-        formats(x, "{0?o()x(x)}", "");
-        formats(x, "{0:x(x)b(b)=1(1)}", "1");
-        formats(x, "{0:x(x)b(b)a(a)}", "b");
-        formats(x, "{0:x(x)o(o)}", "x");
-        x.set(0, -1);
-        formats(x, "{0?=1(1)o(o)x(x)}", "o");
-        formats(x, "{0:=1(1)b(b)x(x)}", "x");
-        x.set(0, 0);
-        formats(x, "{0?x(x)=0(0)}", "0");
-        for (int v = 0; v <= 9; v++) {
-            x.set(0, v);
-            formats(x, "{0?=0(a)=1(b)=2(c)=3(d)=4(e)=5(f)=6(g)=7(h)=8(i)=9(j)x(x)}", "" + (char) ('a' + v));
-            x.set(0, 10 + v);
-            formats(x, "{0?=0(a)=1(b)=2(c)=3(d)=4(e)=5(f)=6(g)=7(h)=8(i)=9(j)x(x)}", "x");
+        formats(0, "{0?x(x)o(o)=1(1)}", "1", 1);
+        formats(0, "{0?=1(1)o(o)x(x)}", "1", 1);
+        formats(0, "{0?x(x)o(o)}", "o", 1);
+        formats(0, "{0?x(x)=2(2)}", "x", 1);
+        formats(0, "{0?=2(2)f(f)}", "", 1);
+        formats(0, "{0?=1(a)=1(b)}", "a", 1);
+        formats(0, "{0?o(a)o(b)}", "a", 1);
+        formats(0, "{0?x(a)x(b)}", "a", 1);
+        formats(0, "{0?=0(0)=1()x(x)}", "", 1);
+        formats(0, "{0?o()x(x)}", "", 1);
+        formats(0, "{0:x(x)b(b)=1(1)}", "1", 1);
+        formats(0, "{0:x(x)b(b)a(a)}", "b", 1);
+        formats(0, "{0:x(x)o(o)}", "x", 1);
+        formats(0, "{0?=1(1)o(o)x(x)}", "o", -1);
+        formats(0, "{0:=1(1)b(b)x(x)}", "x", -1);
+        formats(0, "{0?x(x)=0(0)}", "0", 0);
+        for (int v = -9; v <= 19; v++) {
+            String want = v >= 0 && v <= 9 ? "" + (char) ('a' + v) : "x";
+            formats(2, "{0?x(x)o(x)t(x)f(x)m(x)=0(a)=1(b)=2(c)=3(d)=4(e)=5(f)=6(g)=7(h)=8(i)=9(j)}", want, v);
         }
     }
 
     private static void promise7SelectLetters() {
-        PluralMessages x = new PluralMessages(1);
         for (int v = -30; v <= 60; v++) {
-            x = new PluralMessages(v);
-            x.set(1, v);
             char due = v >= 0 && v <= 22 ? (char) ('a' + v) : 'x';
             for (char key = 'a'; key <= 'z'; key++) {
                 String want = key == due || key == 'x' ? "q" : "";
-                formats(x, "{1:" + key + "(q)}", want);
+                formats(v, "{1:" + key + "(q)}", want, 0, v);
             }
         }
-        x = new PluralMessages(0);
         for (int v : new int[] {LEAST, LEAST + 1, GREATEST, 256, 1 << 16, 23, 24, 25, 26, -1}) {
-            x.set(1, v);
-            formats(x, "{1:a(a)w(w)y(y)z(z)x(x)}", "x");
+            formats(0, "{1:a(a)w(w)y(y)z(z)x(x)}", "x", 0, v);
         }
     }
 
@@ -246,9 +220,7 @@ public final class PromisesTest {
 
     private static void rule(int rules, char letter, int... values) {
         for (int v : values) {
-            PluralMessages x = new PluralMessages(rules);
-            x.set(0, v);
-            formats(x, "{0?z(z)o(o)t(t)f(f)m(m)a(a)b(b)x(x)}", "" + letter);
+            formats(rules, "{0?z(z)o(o)t(t)f(f)m(m)a(a)b(b)x(x)}", "" + letter, v);
         }
     }
 
@@ -281,7 +253,8 @@ public final class PromisesTest {
         x.set(1, 7);
         Check.due("template and values stay", 111, x.format());
 
-        Check.retype(x, "{0}{0}{0}{0}{0}{0}{0}{0}{0}{0}" + "abcdefghij");
+        x = Check.typed(0, "{0}{0}{0}{0}{0}{0}{0}{0}{0}{0}abcdefghij");
+        Check.setAll(x, LEAST, 7);
         Check.due("120 characters", 120, x.format());
         x.type('k');
         Check.due("one plain one more", PluralMessages.TOO_LONG, x.format());
@@ -352,7 +325,7 @@ public final class PromisesTest {
         consults(x, "{2?=1(a)}", 4);
         consults(x, "{2:a({0})}", 4);
         consults(x, "{2:a({0})x({1})}", 6);
-        consults(x, "{1?x({2:a({3})f({0?q()}))}".replace("))}", ")})}"), 7);
+        consults(x, "{1?x({2:a({3})f({0?q()})})}", 7);
         consults(x, "{0?x({1:f(#)})}", 3);
         consults(x, "{0?o({1}{2?x()})x()}", 1);
         consults(x, "", 0);
@@ -375,6 +348,13 @@ public final class PromisesTest {
         Check.retype(x, "{0");
         Check.due("unsound", PluralMessages.UNSOUND, x.format());
         Check.due("the latest that answered a length", 2, x.consulted());
+    }
+
+    // A new object for each template, since an object is good for 512 calls only.
+    private static void formats(int rules, String template, String want, int... values) {
+        PluralMessages x = new PluralMessages(rules);
+        Check.setAll(x, values);
+        formats(x, template, want);
     }
 
     private static void formats(PluralMessages x, String template, String want) {
