@@ -32,16 +32,15 @@ public final class PluralMessages {
     private final int ruleSet;
     private int typed;
     private int written;
+    private int lookedAtByLatest;
+    // These two live during one format() only.
     private int level;
     private int lookedAt;
-    private int lookedAtByLatest;
 
     public PluralMessages(int rules) {
         ruleSet = rules < 0 ? 0 : rules > GREATEST_RULES ? GREATEST_RULES : rules;
         typed = 0;
         written = 0;
-        level = 0;
-        lookedAt = 0;
         lookedAtByLatest = 0;
     }
 
