@@ -1,11 +1,17 @@
 /** Counts and prints the answers that are not the ones that are due. */
 final class Check {
     private static int wrong = 0;
+    private static String sentence = "";
+
+    /** Names the promise, and quotes its sentence, that the answers after this belong to. */
+    static void promise(int number, String quoted) {
+        sentence = "promise " + number + ", \"" + quoted + "\": ";
+    }
 
     static void due(String what, Object want, Object got) {
         if (!want.equals(got)) {
             wrong++;
-            System.out.println(what + ": answered <" + got + ">, due is <" + want + ">");
+            System.out.println(sentence + what + ": answered <" + got + ">, due is <" + want + ">");
         }
     }
 
