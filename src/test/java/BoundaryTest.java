@@ -429,6 +429,8 @@ public final class BoundaryTest {
         Check.promise(5, "It is SOUND iff it is made by this grammar: too long");
         sound(false, "}", ")", "(", "()", "a}", "a)", "{0}}", "{0})", "{0?x()}}", "{0?x()})", "{0?x())}", "{0?x(})", "{0?x(()}", "{0?x(a()}",
             "{0?x({1)}}", "?", ":", "=", "=1", "x(a)", "{0}(a)", "{0?x()}x()", "{0?x(o(a))}", "{0?x(a)b}", "{0?x(a)#}", "{0?x(a){1}}");
+        // As many closers as openers, but not in the grammar's order.
+        sound(false, "}{", ")(", "}{0", "}{0?x(", "}{0?x(a", "{0?x(}", "{0?x(a}", "{0?x(a}b", "{0?x(}{1?x()}", "{0?x({1?x(})})", "{0?x({1}}{2)}");
     }
 
     private static void soundChangesNothing() {
