@@ -456,6 +456,9 @@ public final class BoundaryTest {
             Check.due("set(" + i + ")", false, new PluralMessages(0).set(i, 0));
             Check.due("set(" + i + ", 1)", false, new PluralMessages(0).set(i, 1));
         }
+        for (int i = -2000; i <= 2000; i++) {
+            Check.due("set(" + i + ")", i >= 0 && i < 4, new PluralMessages(0).set(i, 1));
+        }
     }
 
     private static void setRefusedChangesNothing() {
@@ -855,6 +858,11 @@ public final class BoundaryTest {
         Check.due("charAt(119) of 120", (int) '7', x.charAt(119));
         for (int i : new int[] {-1, LEAST, 120, 121, 128, 256, GREATEST}) {
             Check.due("charAt(" + i + ") of 120", BAD, x.charAt(i));
+        }
+        for (int i = -2000; i <= 2000; i++) {
+            x = Check.typed(0, "abc");
+            x.format();
+            Check.due("charAt(" + i + ")", i >= 0 && i < 3 ? 'a' + i : BAD, x.charAt(i));
         }
     }
 
