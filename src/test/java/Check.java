@@ -15,6 +15,10 @@ final class Check {
         }
     }
 
+    static int wrong() {
+        return wrong;
+    }
+
     static void end() {
         System.out.println(wrong == 0 ? "all answers are as due" : wrong + " answers are not as due");
         if (wrong != 0) {
